@@ -1093,7 +1093,7 @@ public final class LaceLines {
         }
     }
 
-    /** Threads told of pins: what lies there, or the book. */
+    /** Threads told of pins: what lies there, or the book. There is room for the longer of both. */
     private static final class Notes {
         final int most;
         final int[] maker;
@@ -1102,8 +1102,8 @@ public final class LaceLines {
 
         Notes(int most) {
             this.most = most;
-            maker = new int[most];
-            thread = new int[most];
+            maker = new int[MOST_BOOK];
+            thread = new int[MOST_BOOK];
         }
 
         void clear() {
