@@ -178,6 +178,15 @@ public final class CallsTest {
         Due.is("drift 1 more", x.drift(1), 1);
         Due.is("the seed goes on", x.seed(12345), 1406932606);
         Due.is("what cannot be rung is no step", x.told(12), 3);
+        for (int seed = 0; seed < 300; seed++) {
+            LaceLines drawn = Due.town("e1 0;m0;m0;m0;x0 1 5 9;x1 2 5 9;");
+            drawn.seed(seed * 7919);
+            drawn.drift(1);
+            long next = (seed * 7919L * 1103515245L + 12345L) % 2147483648L;
+            int draw = (int) (next / 65536 % 3);
+            Due.is("drawn from " + seed, drawn.told(7), draw < 2 ? 1 << draw : 0);
+            Due.is("the seed then", drawn.seed(0), next);
+        }
         // a town without crossings draws, too
         LaceLines bare = Due.town("e1 0;");
         Due.is("bare", bare.drift(2), 0);
@@ -208,6 +217,27 @@ public final class CallsTest {
         Due.is("a minute", x.undo(1), 1);
         Due.is("all of it", x.undo(2), 0);
         Due.are("as at the beginning", Due.all(x), begin);
+        x.ring(0);
+        x.minute(1);
+        x.undo(2);
+        Due.is("she is in no call: another rings", x.ring(1), 1);
+        x.undo(1);
+        x.ring(0);
+        x.hangUp(0);
+        x.undo(1);
+        Due.is("she is in the call again", x.wrongNumber(0, 2), Due.NOT);
+        x.undo(1);
+        Due.are("as at the beginning", Due.all(x), begin);
+        x.minute(1);
+        x.ring(0);
+        x.hangUp(0);
+        x.minute(2);
+        x.ring(0);
+        Due.is("another end", x.crossing(0, 5), 8);
+        x.undo(4);
+        Due.is("the end that it had", x.crossing(0, 5), 6);
+        x.undo(2);
+        Due.are("as at the beginning again", Due.all(x), begin);
         x.lies(0, 0);
         x.write(0, 0);
         x.drift(3);

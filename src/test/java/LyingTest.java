@@ -47,6 +47,7 @@ public final class LyingTest {
         x.lies(0, 0);
         sets("0 on 0", x, 1, 1, 3);
         x.lies(1, 1);
+        Due.is("sure without asking else", x.sure(), 3);
         sets("1 on 1", x, 3, 3);
         x.lies(2, 0);
         sets("it cannot be", x, 0);

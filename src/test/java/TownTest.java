@@ -96,6 +96,24 @@ public final class TownTest {
     }
 
     private static void faults() {
+        LaceLines x = new LaceLines();
+        Due.is("a fault", Due.tell(x, "e1 0;e"), -13);
+        Due.is("its letter", x.fault(), 5);
+        Due.is("feeding says nothing of it", x.feed('e'), 1);
+        Due.is("its letter still", x.fault(), 5);
+        Due.is("another one", Due.tell(x, "0 0;"), -12);
+        Due.is("its letter", x.fault(), 1);
+        Due.is("none", Due.tell(x, "e1 0;m0;"), 1);
+        Due.is("no letter", x.fault(), Due.NONE);
+        // what was fed ahead, behind the end of a text, is no part of the next one
+        Due.is("a long text", Due.tell(x, "e1 0;m0;"), 1);
+        Due.is("a short one", Due.tell(x, "e1 0"), -11);
+        Due.is("at its end", x.fault(), 4);
+        Due.tell(x, "e1 01;");
+        Due.is("a figure left behind", Due.tell(x, "e1 0"), -11);
+        Due.tell(x, "e1 ;");
+        Due.is("a mark left behind", Due.tell(x, "e1"), -11);
+        Due.is("at its end", x.fault(), 2);
         fault("m0;", 1, 0);
         fault("x0 1 1 9;", 1, 0);
         fault(" z", 1, 1);
@@ -191,11 +209,23 @@ public final class TownTest {
         Due.is("images are gone", x.goBack(1), Due.NOT);
         Due.is("nothing is undone", x.undo(1), Due.NOT);
         Due.is("the seed stays", x.seed(0), 77);
+        x.ring(0);
+        Due.is("told anew while a call goes on", Due.tell(x, "e1 0;m0;m0;x0 1 3 9;x0 1 2 9;"), 2);
+        Due.is("none is rung", x.told(7), 0);
+        Due.is("she is in no call", x.wrongNumber(0, 1), 1);
+        Due.is("the line is free", x.ring(1), 2);
+        Due.is("told anew while she calls", Due.tell(x, "e1 44;m0;m0;x0 1 3 9;"), 2);
+        Due.is("she can call", x.ring(0), 3);
+        Due.is("an empty text", x.town(), 0);
+        for (int what = 0; what <= 12; what++) {
+            Due.is("nothing is told: " + what, x.told(what), 0);
+        }
     }
 
     private static void asking() {
         LaceLines x = Due.town(LACE);
         x.ring(0);
+        Due.is("maker 1 is in call 0", x.maker(1, 3), 0);
         x.ring(2);
         x.minute(3);
         x.lies(0, 0);

@@ -48,6 +48,14 @@ public final class TriedTest {
         order("only rung ones", x, 9);
         x.minute(9);
         order("all done", x, 0);
+        // maker 0 is in all of 0 .. 4; nine minutes wait for 4, so it goes first
+        order("4 first of six", Due.town("e2 0;m0;m0;m0;m0;m0;x0 1 2 9;x0 1 2 9;x0 1 2 9;x0 1 2 9;x0 2 1 9;x3 4 9 4;"),
+            10, 4, 0, 1, 2, 3, 5);
+        order("the long one ahead of a short one", Due.town("e2 0;m0;m0;m0;m0;m0;m0;x0 1 1 9;x2 3 1 9;x4 5 2 9;"), 2, 0, 2, 1);
+        // 3 and 5 share a maker: 5 ends at 11 at the soonest, if 2 is done at 2; 0 may go ahead of it, 1 not
+        order("2 ahead of 1", Due.town("e3 0;m0;m0;m0;m0;m0;m0;x0 1 1 9;x0 2 1 9;x0 3 1 9;x1 4 1 0;x2 5 5 1;x3 4 9 2;"),
+            11, 0, 2, 1, 3, 4, 5);
+        order("a row", Due.town("e1 0;m0;m0;m0;m0;x0 1 1 9;x0 1 1 0;x0 1 1 1;x0 1 1 2;"), 4, 0, 1, 2, 3);
         // a greedy order rings what it can at once, though waiting were better
         order("no waiting", Due.town("e1 0;m0;m0;m0;x0 1 3 9;x1 2 4 9;"), 7, 0, 1);
     }
@@ -97,6 +105,13 @@ public final class TriedTest {
         LaceLines like = Due.town("e1 0;m0;m0;x0 1 3 9;x0 1 5 9;x0 1 2 0;x0 1 1 0;");
         Due.is("like ones: minutes", like.chain(0), 5);
         Due.is("like ones: the least", like.chain(1), 1);
+        LaceLines one = Due.town("e1 0;m0;m0;x0 1 3 9;");
+        Due.is("one: minutes", one.chain(0), 3);
+        Due.is("one: last", one.chain(1), 0);
+        LaceLines eight = Due.town("e1 0;m0;m0;x0 1 20 9;x0 1 20 0;x0 1 20 1;x0 1 20 2;x0 1 20 3;x0 1 20 4;"
+            + "x0 1 20 5;x0 1 20 6;");
+        Due.is("eight: minutes", eight.chain(0), 160);
+        Due.is("eight: last", eight.chain(1), 7);
         like.ring(1);
         like.minute(5);
         Due.is("done ones count", like.chain(0), 5);
@@ -162,6 +177,12 @@ public final class TriedTest {
         Due.is("2", x.share(2), 166);
         Due.is("3", x.share(3), Due.UNKNOWN);
         Due.is("-1", x.share(-1), Due.UNKNOWN);
+        LaceLines seventh = Due.town("e1 4;m0;m0;m0;x0 1 2 9;x1 2 5 0;");
+        seventh.ring(0);
+        seventh.minute(2);
+        seventh.ring(1);
+        seventh.minute(5);
+        Due.is("a seventh", seventh.share(0), 142);
         // hung up again and again: what is paid goes above what an int's thousandfold holds
         LaceLines dear = Due.town("e1 99;m0;m0;m0;x0 1 20 9;x0 2 1 9;");
         for (int i = 0; i < 1200; i++) {
