@@ -228,7 +228,8 @@ public final class LaceLines {
         if (what != 0 && what != 1) {
             return OUTSIDE;
         }
-        int longest = 0;
+        // Without a crossing there is no row, so its minutes are NONE, not 0.
+        int longest = NONE;
         int last = NONE;
         for (int x = 0; x < pattern.crossings; x++) {
             int lasts = pattern.minutesOfRowTo(x);

@@ -410,6 +410,7 @@ final class SlowTown {
         if (what < 0 || what > 1) return OUTSIDE;
         int last = NONE;
         for (int x = calls.size() - 1; x >= 0; x--) if (last == NONE || rowTo(x) >= rowTo(last)) last = x;
+        if (last == NONE) return NONE;
         return what == 1 ? last : rowTo(last);
     }
 

@@ -30,7 +30,7 @@ public final class TownTest {
         Due.is("new undo", x.undo(1), Due.NOT);
         Due.is("new soonest", x.soonest(Due.NONE), Due.NOT);
         Due.is("new lines", x.lines(0), Due.NOT);
-        Due.is("new chain 0", x.chain(0), 0);
+        Due.is("new chain 0", x.chain(0), Due.NONE);
         Due.is("new chain 1", x.chain(1), Due.NONE);
         Due.is("new window", x.window(0, 0), Due.UNKNOWN);
         Due.is("new gone", x.gone(0), Due.UNKNOWN);

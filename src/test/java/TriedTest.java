@@ -116,8 +116,13 @@ public final class TriedTest {
         like.minute(5);
         Due.is("done ones count", like.chain(0), 5);
         LaceLines none = Due.town("e1 0;m0;");
-        Due.is("none: minutes", none.chain(0), 0);
+        Due.is("none: minutes", none.chain(0), Due.NONE);
         Due.is("none: last", none.chain(1), Due.NONE);
+        Due.is("no exchange: minutes", new LaceLines().chain(0), Due.NONE);
+        Due.is("no exchange: last", new LaceLines().chain(1), Due.NONE);
+        Due.is("a town with crossings before", Due.tell(one, "e1 0;m0;m0;"), 2);
+        Due.is("then none: minutes", one.chain(0), Due.NONE);
+        Due.is("then none: last", one.chain(1), Due.NONE);
         Due.is("outside without an exchange", new LaceLines().chain(2), Due.OUTSIDE);
     }
 
