@@ -135,6 +135,7 @@ public final class CallsEdgesTest {
         Edge.run("C 0", "'e1 0;m0;m0;x0 1 20 9;'|ring 0 = 20|minute 20 = 1|told 9 = 0|maker 0 2 = 0");
         Edge.run("C 99, T 20", "'e1 99;m0;m0;m0;x0 2 20 9;'|ring 0 = 20|minute 19 = 0|told 9 = 0|minute 1 = 1|told 9 = 3960|maker 0 2 = 1980"
             + "|maker 1 2 = 0|maker 2 2 = 1980|minute 60 = 1|told 9 = 3960");
+        Edge.run("nothing ahead of its end", "'e1 5;m0;m0;x0 1 3 9;'|ring 0|minute 2|maker 0 2 = 0|maker 1 2 = 0|told 9 = 0|share 0 = 0|minute 1|maker 0 2 = 15");
         Edge.run("hung up at once", "'e1 99;m0;m0;x0 1 20 9;'|ring 0 = 20|hangUp 0 = 0|told 9 = 0");
         Edge.run("hung up at the last minute", "'e1 99;m0;m0;x0 1 20 9;'|ring 0 = 20|minute 19 = 0|hangUp 0 = 19|told 9 = 3762|maker 1 2 = 1881"
             + "|ring 0 = 39|minute 20 = 1|told 9 = 7722");
@@ -209,6 +210,7 @@ public final class CallsEdgesTest {
             "wrongNumber 0 3 = UNKNOWN", "wrongNumber 3 1 = UNKNOWN");
         Edge.run("DONE: in none", THREE + "|ring 0 = 5|minute 5 = 1|wrongNumber 0 2 = 2");
         Edge.run("HUNG UP: in none", THREE + "|ring 0 = 5|hangUp 0 = 0|wrongNumber 0 2 = 2");
+        Edge.run("it needs no LINE", "'e1 7;m0;m0;m0;m0;x0 1 5 9;'|ring 0 = 5|wrongNumber 2 3 = 3|told 7 = 1|minute 5 = 1|told 9 = 70|maker 3 1 = 2");
         Edge.run("others may", EIGHT + "|ring 0 = 2|ring 1 = 2|wrongNumber 4 5 = 5|wrongNumber 3 4 = NOT");
     }
 

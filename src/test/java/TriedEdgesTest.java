@@ -24,7 +24,9 @@ public final class TriedEdgesTest {
         chains();
         windowUnknown();
         windows();
+        behindWhatWentWrong();
         gone();
+        goneRungOrDone();
         shareUnknown();
         shareOfNothing();
         shareCut();
@@ -175,6 +177,16 @@ public final class TriedEdgesTest {
             + "|window 3 0 = 1|window 4 0 = 4|window 1 1 = 1|window 3 1 = 3");
     }
 
+    /** Section 3: went wrong: they changed nothing; all were done, so those behind them, too. */
+    private static void behindWhatWentWrong() {
+        // 0 1 2 3: with 0 wrong it is 0 2 1 3 behind crossing 1, 0 2 3 1 behind crossing 2
+        String town = "'e1 0;m0;m0;m0;m0;x0 1 1 9;x1 2 1 0;x2 3 1 1;'";
+        Edge.run("the first of a row", town + "|window 0 1 = 0|window 1 1 = 2|window 2 1 = 3|window 3 1 = 1");
+        Edge.run("the middle one", town + "|window 0 2 = 1|window 1 2 = 0|window 2 2 = 3|window 3 2 = 2");
+        Edge.run("the last one", town + "|window 0 4 = 1|window 1 4 = 2|window 2 4 = 0|window 3 4 = 3");
+        Edge.run("told apart by what is behind", town + "|lies 0 0|lies 3 1|wentWrong NONE = 1|wentWrong 0 = 1|sure = 1");
+    }
+
     /** Promise 18: UNKNOWN; a SET of hers, and all behind these. */
     private static void gone() {
         String town = "'e1 0;m0;m0;m0;m0;m0;x0 1 1 9;x2 3 1 0;x2 3 1 1;x2 3 1 9;x1 2 1 3;'";
@@ -184,6 +196,15 @@ public final class TriedEdgesTest {
             "gone 0 = 255", "gone 1 = 255", "gone 2 = 254");
         Edge.each("without CROSSINGS", "'e1 0;m0;'", "gone 0 = 0", "gone 1 = UNKNOWN");
         Edge.each("P 9 is behind none", "'e1 0;m0;m0;m0;x0 1 1 9;x1 2 1 9;'", "gone 0 = 1");
+    }
+
+    /** Section 3: hers, and all behind these: however they are (the document names no other ones). */
+    private static void goneRungOrDone() {
+        String town = "'e2 0;m0;m0;m0;m0;x0 1 2 9;x2 3 1 0;x0 2 1 9;'";
+        Edge.each("OPEN", town, "gone 0 = 7", "gone 1 = 3", "gone 2 = 6", "gone 3 = 2");
+        Edge.each("RUNG", town + "|ring 0|minute 1", "gone 0 = 7", "gone 1 = 3", "gone 2 = 6", "gone 3 = 2");
+        Edge.each("one is DONE, one is RUNG", town + "|ring 0|minute 2|ring 1", "gone 0 = 7", "gone 1 = 3", "gone 2 = 6", "gone 3 = 2");
+        Edge.each("all are DONE", town + "|ring 0|minute 2|ring 1|minute 1|ring 2|minute 1", "gone 0 = 7", "gone 1 = 3", "gone 2 = 6", "gone 3 = 2");
     }
 
     /** Promise 19: UNKNOWN. */
